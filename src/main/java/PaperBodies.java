@@ -534,7 +534,7 @@ public final class PaperBodies {
     }
 
     private static boolean isSquare(int square) {
-        return within(square, 0, BOARD - 1);
+        return square >= 0 && square < BOARD;
     }
 
     /** A CELL and how its FRAME is turned go as one number all over this class. */
@@ -623,7 +623,7 @@ public final class PaperBodies {
         }
 
         static boolean has(long set, int square) {
-            return isSquare(square) && (set >>> square & 1L) != 0;
+            return square >= 0 && square < BOARD && (set >>> square & 1L) != 0;
         }
 
         /** Of a set that is not empty. */
