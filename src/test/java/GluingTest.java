@@ -242,13 +242,20 @@ public final class GluingTest {
         x.figure(0, 15);
         dueGlue(x, "too many quarters", 6, 0, 1, 0, 3, 2, 5, 4, 7, 6, 9, 8);
         dueGlue(x, "rolled up", 6, 1, 9, 8, 7, 6, 5, 4, 3, 2, 1, 0);
-        x.figure(0, 0xFFFFFFL);
-        CHECKS.due("a rim of 22", x.rim(0), 22);
-        int[] zip = new int[22];
-        for (int i = 0; i < 22; i++) {
-            zip[i] = 21 - i;
+        zipped(x, 0xFFFFFFL, 22, 1);
+        // its inner bend, of 3 quarters, comes to a point of 2
+        zipped(x, 0xFFFFF8L | 1L << 24, 24, 0);
+    }
+
+    /** Edge 0 with the last one, 1 with the one ahead of it, ..: a row can tell 24. */
+    private static void zipped(PaperBodies x, long set, int edges, int legal) {
+        x.figure(0, set);
+        CHECKS.due("a rim of " + edges, x.rim(0), edges);
+        int[] zip = new int[edges];
+        for (int i = 0; i < edges; i++) {
+            zip[i] = edges - 1 - i;
         }
-        dueGlue(x, "zipped", 12, 1, zip);
+        dueGlue(x, "zipped, " + edges, edges / 2 + 1, legal, zip);
     }
 
     private static void glueRefused() {

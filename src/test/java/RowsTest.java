@@ -160,6 +160,11 @@ public final class RowsTest {
         dueMean("great ones", GREATEST, GREATEST, GREATEST, GREATEST);
         dueMean("least ones", LEAST, LEAST, LEAST);
         dueMean("both", 0, LEAST, GREATEST);
+        int[] full = new int[24];
+        for (int i = 0; i < 24; i++) {
+            full[i] = i;
+        }
+        dueMean("as many as there can be", 11, full);
         PaperBodies x = new PaperBodies();
         CHECKS.due("meanRow(4)", x.meanRow(4), BAD);
         CHECKS.due("meanRow(-1)", x.meanRow(-1), BAD);

@@ -99,13 +99,16 @@ public final class WaysTest {
         PaperBodies x = new PaperBodies();
         x.box(0, 1, 1, 1);
         CHECKS.due("4 times 4 and 16, by 5, cut", x.mean(0, 0), 32 / 5);
-        x.box(0, 1, 2, 3);
-        for (int p = 0; p < 22; p++) {
-            int sum = 0;
-            for (int q = 0; q < 22; q++) {
-                sum += x.way(0, p, q);
+        int[][] sizes = {{1, 2, 3}, {1, 1, 2}, {1, 3, 1}, {4, 1, 1}, {2, 2, 2}, {2, 1, 2}};
+        for (int[] size : sizes) {
+            int cells = x.box(0, size[0], size[1], size[2]);
+            for (int p = 0; p < cells; p++) {
+                int sum = 0;
+                for (int q = 0; q < cells; q++) {
+                    sum += x.way(0, p, q);
+                }
+                CHECKS.due("mean of " + p, x.mean(0, p), sum / (cells - 1));
             }
-            CHECKS.due("mean of " + p, x.mean(0, p), sum / 21);
         }
     }
 
