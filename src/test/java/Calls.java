@@ -1,6 +1,14 @@
-/** Calls of PaperBodies by name; ints are cut from the longs. */
+/** Runs of calls that several tests need, and calls by name (ints are cut from the longs). */
 final class Calls {
     private Calls() {
+    }
+
+    /** A new ROW with these places. */
+    static void fill(PaperBodies x, int row, int... values) {
+        x.row(row, values.length);
+        for (int i = 0; i < values.length; i++) {
+            x.lay(row, i, values[i]);
+        }
     }
 
     static long call(PaperBodies x, String name, long... a) {

@@ -210,30 +210,23 @@ public final class FoldingTest {
         CHECKS.due("no figure came of it", x.count(0), 0);
     }
 
-    private static void fill(PaperBodies x, int row, int... values) {
-        x.row(row, values.length);
-        for (int i = 0; i < values.length; i++) {
-            x.lay(row, i, values[i]);
-        }
-    }
-
     private static void layOutBy() {
         PaperBodies x = new PaperBodies();
         x.box(0, 1, 1, 1);
         // cell number k goes by place k: 4 up to 3, 3 up to 5, 5 up to 2; 3 with both walls
-        fill(x, 0, 0, 0, 0, 7, 2, 2);
+        Calls.fill(x, 0, 0, 0, 0, 7, 2, 2);
         CHECKS.due("by told ways", x.layOutBy(0, 4, 1 + 8, 0, 0), 2);
         CHECKS.due("a cross", squaresOf(x, 0), 1L << 9 | 7L << 16 | 1L << 25 | 1L << 33);
         CHECKS.due("kind", x.told(0, 0), 3);
         CHECKS.due("its least square is where it began", x.mark(0, 2), 4);
-        fill(x, 0, 16, 16, -16, 23, 18, 1 << 30 | 2);
+        Calls.fill(x, 0, 16, 16, -16, 23, 18, 1 << 30 | 2);
         CHECKS.due("other bits are of no account", x.layOutBy(0, 4, 9, 0, 1), 2);
         CHECKS.due("the same", squaresOf(x, 1), squaresOf(x, 0));
-        fill(x, 0, 0, 0, 0, 3, 2, 2);
+        Calls.fill(x, 0, 0, 0, 0, 3, 2, 2);
         long before = x.digest();
         CHECKS.due("a wall is not laid out", x.layOutBy(0, 4, 9, 0, 2), 0);
         CHECKS.due("nothing changes", x.digest(), before);
-        fill(x, 0, 0, 0, 0, 7, 2, 2);
+        Calls.fill(x, 0, 0, 0, 0, 7, 2, 2);
         CHECKS.due("off the board", x.layOutBy(0, 4, 32, 0, 2), 0);
         x.row(1, 0);
         CHECKS.due("all ways", x.layOutBy(0, 2, 27, 1, 3), 2);
@@ -249,13 +242,13 @@ public final class FoldingTest {
     private static void touching() {
         PaperBodies x = new PaperBodies();
         x.box(0, 1, 2, 2);
-        fill(x, 0, 0, 9, 13, 7, 11, 12, 5, 0, 5, 0, 9, 6, 10, 2, 9, 7);
+        Calls.fill(x, 0, 0, 9, 13, 7, 11, 12, 5, 0, 5, 0, 9, 6, 10, 2, 9, 7);
         x.figure(0, 1);
         long before = x.digest();
         CHECKS.due("touches", x.layOutBy(0, 15, 20, 0, 0), 1);
         CHECKS.due("nothing changes", x.digest(), before);
         x.box(0, 1, 1, 3);
-        fill(x, 0, 13, 6, 3, 0, 1, 7, 11, 3, 11, 3, 2, 10, 4, 13);
+        Calls.fill(x, 0, 13, 6, 3, 0, 1, 7, 11, 3, 11, 3, 2, 10, 4, 13);
         CHECKS.due("touches", x.layOutBy(0, 9, 36, 0, 0), 1);
         CHECKS.due("no net", x.told(0, 0), 1);
     }

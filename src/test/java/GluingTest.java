@@ -215,15 +215,8 @@ public final class GluingTest {
         CHECKS.due("spent", x.tries(), 12);
     }
 
-    private static void fill(PaperBodies x, int row, int... values) {
-        x.row(row, values.length);
-        for (int i = 0; i < values.length; i++) {
-            x.lay(row, i, values[i]);
-        }
-    }
-
     private static void dueGlue(PaperBodies x, String what, int corners, int legal, int... partners) {
-        fill(x, 1, partners);
+        Calls.fill(x, 1, partners);
         CHECKS.due("glue: " + what, x.glue(0, 1), corners);
         if (corners > 0) {
             CHECKS.due("legal: " + what, x.asked(), legal);
@@ -262,7 +255,7 @@ public final class GluingTest {
         PaperBodies x = new PaperBodies();
         x.figure(0, 1);
         x.figure(2, RING);
-        fill(x, 0, 1, 0, 3, 2);
+        Calls.fill(x, 0, 1, 0, 3, 2);
         CHECKS.due("figure 6", x.glue(6, 0), BAD);
         CHECKS.due("figure -1", x.glue(-1, 0), BAD);
         CHECKS.due("row 4", x.glue(0, 4), BAD);
@@ -283,7 +276,7 @@ public final class GluingTest {
         dueGlue(x, "crossing", STATE, 0, 2, 3, 0, 1);
         x.figure(0, 3);
         dueGlue(x, "crossing inside", STATE, 0, 5, 3, 4, 1, 2, 0);
-        fill(x, 1, 9, 8);
+        Calls.fill(x, 1, 9, 8);
         long before = x.asked();
         x.glue(0, 1);
         CHECKS.due("asked() stays", x.asked(), before);

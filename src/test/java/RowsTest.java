@@ -36,13 +36,6 @@ public final class RowsTest {
         }
     }
 
-    private static void fill(PaperBodies x, int r, int... values) {
-        x.row(r, values.length);
-        for (int i = 0; i < values.length; i++) {
-            x.lay(r, i, values[i]);
-        }
-    }
-
     private static void row() {
         PaperBodies x = new PaperBodies();
         CHECKS.due("row(0, 0)", x.row(0, 0), 0);
@@ -55,14 +48,14 @@ public final class RowsTest {
         CHECKS.finds(x, "row(0, -1)", x.row(0, -1), SIZE);
         CHECKS.finds(x, "row(0, least)", x.row(0, LEAST), SIZE);
         CHECKS.due("two rows", x.count(4), 2);
-        fill(x, 1, 5, 6, 7);
+        Calls.fill(x, 1, 5, 6, 7);
         CHECKS.due("anew", x.row(1, 3), 3);
         dueRow(x, "noughts", 1, 0, 0, 0);
-        fill(x, 1, 5, 6, 7);
+        Calls.fill(x, 1, 5, 6, 7);
         x.row(1, 1);
         x.row(1, 3);
         dueRow(x, "nothing of the old one", 1, 0, 0, 0);
-        fill(x, 2, 1);
+        Calls.fill(x, 2, 1);
         x.row(2, -1);
         x.row(2, 25);
         dueRow(x, "refused, as it was", 2, 1);
@@ -103,8 +96,8 @@ public final class RowsTest {
 
     private static void copy() {
         PaperBodies x = new PaperBodies();
-        fill(x, 0, 1, 2, 3, 4, 5);
-        fill(x, 1, 9, 9, 9);
+        Calls.fill(x, 0, 1, 2, 3, 4, 5);
+        Calls.fill(x, 1, 9, 9, 9);
         CHECKS.due("to another one", x.copy(0, 3, 1, 1, 2), 1);
         dueRow(x, "to another one", 1, 9, 4, 5);
         dueRow(x, "the first stays", 0, 1, 2, 3, 4, 5);
@@ -121,8 +114,8 @@ public final class RowsTest {
 
     private static void copyRefused() {
         PaperBodies x = new PaperBodies();
-        fill(x, 0, 1, 2, 3);
-        fill(x, 1, 4, 5);
+        Calls.fill(x, 0, 1, 2, 3);
+        Calls.fill(x, 1, 4, 5);
         CHECKS.due("row 4", x.copy(4, 0, 0, 0, 0), BAD);
         CHECKS.due("row -1", x.copy(-1, 0, 0, 0, 0), BAD);
         CHECKS.due("to 4", x.copy(0, 0, 4, 0, 0), BAD);
@@ -148,7 +141,7 @@ public final class RowsTest {
 
     private static void dueMean(String what, long want, int... values) {
         PaperBodies x = new PaperBodies();
-        fill(x, 2, values);
+        Calls.fill(x, 2, values);
         CHECKS.due("meanRow of " + what, x.meanRow(2), 1);
         CHECKS.due(what, x.asked(), want);
     }
@@ -169,7 +162,7 @@ public final class RowsTest {
         CHECKS.due("meanRow(4)", x.meanRow(4), BAD);
         CHECKS.due("meanRow(-1)", x.meanRow(-1), BAD);
         CHECKS.finds(x, "no row", x.meanRow(0), NOTHING);
-        fill(x, 0, 8);
+        Calls.fill(x, 0, 8);
         x.meanRow(0);
         x.row(0, 0);
         CHECKS.finds(x, "shared among none", x.meanRow(0), NOUGHT);
@@ -209,7 +202,7 @@ public final class RowsTest {
         CHECKS.due("next()", x.asked(), 3);
         x.farthest(0, 0);
         CHECKS.due("farthest()", x.asked(), 16);
-        fill(x, 0, 7, 6, 5, 4, 3, 2, 1, 0);
+        Calls.fill(x, 0, 7, 6, 5, 4, 3, 2, 1, 0);
         x.lay(0, 0, 7);
         CHECKS.due("lay()", x.asked(), 7);
         x.meanRow(0);
@@ -298,7 +291,7 @@ public final class RowsTest {
         x.figure(1, Long.MIN_VALUE);
         x.figure(4, 0x0103L);
         x.box(2, 3, 2, 1);
-        fill(x, 0, 5, -6);
+        Calls.fill(x, 0, 5, -6);
         x.row(3, 0);
         long want = hashed(-1, 1, Long.MIN_VALUE, -1, -1, 0, 0x0103L, -1,
             -1, -1, 3, 2, 1, -1,
