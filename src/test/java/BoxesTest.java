@@ -131,16 +131,17 @@ public final class BoxesTest {
     }
 
     private static void nextAndBack() {
-        int[][] sizes = {{1, 1, 1}, {1, 2, 3}, {3, 1, 2}, {2, 3, 1}, {2, 2, 2}, {5, 1, 1}};
-        for (int[] size : sizes) {
-            PaperBodies x = new PaperBodies();
-            int cells = x.box(0, size[0], size[1], size[2]);
-            for (int at = 0; at < 16 * cells; at++) {
-                int way = at % 4;
-                int to = x.next(0, at / 16, at / 4 % 4, way);
-                int turn = (int) x.asked();
-                CHECKS.holds("there is such a cell", to >= 0 && to < cells && to != at / 16);
-                dueNext(x, to, turn, way + 2 & 3, at / 16, at / 4 % 4);
+        for (int[] size : Calls.allBoxes()) {
+            int cells = new PaperBodies().box(0, size[0], size[1], size[2]);
+            for (int cell = 0; cell < cells; cell++) {
+                PaperBodies x = new PaperBodies();
+                x.box(0, size[0], size[1], size[2]);
+                for (int at = 0; at < 16; at++) {
+                    int to = x.next(0, cell, at / 4, at % 4);
+                    int turn = (int) x.asked();
+                    CHECKS.holds("there is such a cell", to >= 0 && to < cells && to != cell);
+                    dueNext(x, to, turn, at + 2 & 3, cell, at / 4);
+                }
             }
         }
     }

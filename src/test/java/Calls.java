@@ -1,3 +1,6 @@
+import java.util.ArrayList;
+import java.util.List;
+
 /** Runs of calls that several tests need, and calls by name (ints are cut from the longs). */
 final class Calls {
     private Calls() {
@@ -9,6 +12,20 @@ final class Calls {
         for (int i = 0; i < values.length; i++) {
             x.lay(row, i, values[i]);
         }
+    }
+
+    /** The lengths of all BOXES that there can be. */
+    static List<int[]> allBoxes() {
+        List<int[]> all = new ArrayList<>();
+        for (int at = 0; at < 125; at++) {
+            int a = 1 + at / 25;
+            int b = 1 + at / 5 % 5;
+            int c = 1 + at % 5;
+            if (2 * (a * b + b * c + c * a) <= 24) {
+                all.add(new int[] {a, b, c});
+            }
+        }
+        return all;
     }
 
     static long call(PaperBodies x, String name, long... a) {

@@ -1,11 +1,28 @@
 /** Counts the answers that are not as due; a test ends with it. */
 final class Checks {
+    /** Far more than any test needs, on a slow machine too. */
+    private static final long MOST_MILLIS = 180_000;
+
     private final String test;
     private int asked = 0;
     private int wrong = 0;
 
     Checks(String test) {
         this.test = test;
+        Thread watch = new Thread(this::failInTheEnd);
+        watch.setDaemon(true);
+        watch.start();
+    }
+
+    /** A call that does not end is wrong as well: it must not keep all other tests waiting. */
+    private void failInTheEnd() {
+        try {
+            Thread.sleep(MOST_MILLIS);
+        } catch (InterruptedException e) {
+            return;
+        }
+        System.out.println(test + ": does not end");
+        Runtime.getRuntime().halt(1);
     }
 
     void due(String call, long got, long want) {

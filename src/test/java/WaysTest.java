@@ -38,12 +38,11 @@ public final class WaysTest {
         CHECKS.due("round two edges", x.way(1, 0, 6), 16);
     }
 
-    /** Where the straight way over one side is longer than one over two or three. */
     private static void overManySides() {
         PaperBodies x = new PaperBodies();
         x.box(0, 2, 2, 2);
-        // x = 0 to x = 2, corner to corner: over two sides 1 by 4 units are apart
-        CHECKS.due("opposite corners of opposite sides", x.way(0, 0, 7), 68);
+        // x = 0 to x = 2, corner to corner, over y = 2: 4 along, 1 across
+        CHECKS.due("opposite corners of opposite sides", x.way(0, 0, 7), 4 * (16 + 1));
         CHECKS.due("straight over one side", x.way(0, 0, 4), 4 * 9);
         x.box(0, 5, 1, 1);
         CHECKS.due("end to end", x.way(0, 0, 1), 4 * 36);
@@ -54,11 +53,10 @@ public final class WaysTest {
     }
 
     private static void thereAndBack() {
-        int[][] sizes = {{1, 1, 2}, {1, 2, 3}, {3, 2, 1}, {2, 2, 2}, {1, 4, 1}, {2, 1, 2}};
-        for (int[] size : sizes) {
-            PaperBodies x = new PaperBodies();
-            int cells = x.box(0, size[0], size[1], size[2]);
+        for (int[] size : Calls.allBoxes()) {
+            int cells = with(size).count(3);
             for (int p = 0; p < cells; p++) {
+                PaperBodies x = with(size);
                 CHECKS.due("to itself", x.way(0, p, p), 0);
                 for (int q = 0; q < p; q++) {
                     CHECKS.due("there and back", x.way(0, p, q), x.way(0, q, p));
@@ -68,6 +66,13 @@ public final class WaysTest {
                 }
             }
         }
+    }
+
+    /** A new object, as each one is used for 512 calls at most. */
+    private static PaperBodies with(int[] size) {
+        PaperBodies x = new PaperBodies();
+        x.box(0, size[0], size[1], size[2]);
+        return x;
     }
 
     private static void farthest() {
@@ -81,35 +86,41 @@ public final class WaysTest {
         x.box(0, 1, 1, 3);
         CHECKS.due("the least of alike ones", x.farthest(0, 1), 3);
         CHECKS.due("how far", x.asked(), 20);
-        int[][] sizes = {{1, 1, 2}, {1, 2, 3}, {3, 1, 2}, {2, 2, 2}, {5, 1, 1}};
-        for (int[] size : sizes) {
-            int cells = x.box(0, size[0], size[1], size[2]);
+        for (int[] size : Calls.allBoxes()) {
+            int cells = with(size).count(3);
             for (int p = 0; p < cells; p++) {
-                int want = 0;
-                for (int q = 1; q < cells; q++) {
-                    want = x.way(0, p, q) > x.way(0, p, want) ? q : want;
-                }
-                CHECKS.due("farthest of " + p, x.farthest(0, p), want);
-                CHECKS.due("how far", x.asked(), x.way(0, p, want));
+                dueFarthest(with(size), p, cells);
             }
         }
+    }
+
+    private static void dueFarthest(PaperBodies x, int p, int cells) {
+        int want = 0;
+        for (int q = 1; q < cells; q++) {
+            want = x.way(0, p, q) > x.way(0, p, want) ? q : want;
+        }
+        CHECKS.due("farthest of " + p, x.farthest(0, p), want);
+        CHECKS.due("how far", x.asked(), x.way(0, p, want));
     }
 
     private static void mean() {
         PaperBodies x = new PaperBodies();
         x.box(0, 1, 1, 1);
         CHECKS.due("4 times 4 and 16, by 5, cut", x.mean(0, 0), 32 / 5);
-        int[][] sizes = {{1, 2, 3}, {1, 1, 2}, {1, 3, 1}, {4, 1, 1}, {2, 2, 2}, {2, 1, 2}};
-        for (int[] size : sizes) {
-            int cells = x.box(0, size[0], size[1], size[2]);
+        for (int[] size : Calls.allBoxes()) {
+            int cells = with(size).count(3);
             for (int p = 0; p < cells; p++) {
-                int sum = 0;
-                for (int q = 0; q < cells; q++) {
-                    sum += x.way(0, p, q);
-                }
-                CHECKS.due("mean of " + p, x.mean(0, p), sum / (cells - 1));
+                dueMean(with(size), p, cells);
             }
         }
+    }
+
+    private static void dueMean(PaperBodies x, int p, int cells) {
+        int sum = 0;
+        for (int q = 0; q < cells; q++) {
+            sum += x.way(0, p, q);
+        }
+        CHECKS.due("mean of " + p, x.mean(0, p), sum / (cells - 1));
     }
 
     private static void refused() {
