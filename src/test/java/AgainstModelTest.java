@@ -17,6 +17,8 @@ public final class AgainstModelTest {
     };
     private static final int RUNS = 150;
     private static final int CALLS = 512;
+    /** A rim of 24, place by place, and what belongs to it. */
+    private static final int GLUING_CALLS = 24 + 5;
 
     private final Random random;
     private final int run;
@@ -37,15 +39,15 @@ public final class AgainstModelTest {
 
     private void goThrough() {
         int calls = 0;
-        while (calls < CALLS - 60) {
-            if (random.nextInt(25) == 0) {
+        while (calls < CALLS) {
+            if (random.nextInt(25) == 0 && calls < CALLS - GLUING_CALLS) {
                 calls += laidGluing();
             } else {
                 String name = NAMES[random.nextInt(NAMES.length)];
                 check(name, arguments(name));
                 calls++;
             }
-            if (random.nextInt(3) == 0) {
+            if (random.nextInt(3) == 0 && calls < CALLS) {
                 check(random.nextBoolean() ? "digest" : random.nextBoolean() ? "asked" : "finding");
                 calls++;
             }

@@ -1,6 +1,4 @@
-import java.util.ArrayList;
 import java.util.Arrays;
-import java.util.List;
 import java.util.Random;
 
 /**
@@ -32,7 +30,7 @@ public final class AllBoxesTest {
             Random random = new Random(box.cells + 31 * size[0]);
             for (int k = 0; k < TREES; k++) {
                 box.begin();
-                answers[box.oneTree(random)]++;
+                answers[box.oneTree(new Tree(size, random))]++;
             }
         }
         CHECKS.holds("some cross, some touch, some do neither: " + Arrays.toString(answers),
@@ -74,15 +72,12 @@ public final class AllBoxesTest {
     }
 
     /** Lays the box out by a tree of ways; answers as layOutBy() does. */
-    private int oneTree(Random random) {
-        int root = random.nextInt(cells);
-        int[] ways = new int[cells];
-        int square = grow(random, root, ways);
+    private int oneTree(Tree tree) {
         check("row", 1, cells);
         for (int cell = 0; cell < cells; cell++) {
-            check("lay", 1, cell, ways[cell]);
+            check("lay", 1, cell, tree.ways[cell]);
         }
-        long answer = check("layOutBy", 2, root, square, 1, 4);
+        long answer = check("layOutBy", 2, tree.root, tree.square(), 1, 4);
         check("told", 4, 0);
         check("mark", 4, 2);
         check("mark", 4, 3);
@@ -90,43 +85,5 @@ public final class AllBoxesTest {
         check("rim", 4);
         check("digest");
         return (int) answer;
-    }
-
-    /** Sets one bit for each CELL but the first; answers a SQUARE for it, from which all fits if it can. */
-    private int grow(Random random, int root, int[] ways) {
-        PaperBodies guide = new PaperBodies();
-        guide.box(0, size[0], size[1], size[2]);
-        List<int[]> laid = new ArrayList<>(List.of(new int[] {root, 0, 0, 0}));
-        boolean[] isLaid = new boolean[cells];
-        isLaid[root] = true;
-        int number = 1;
-        int leastX = 0;
-        int leastY = 0;
-        // far fewer steps are needed: it ends, whatever the class answers
-        for (int step = 0; step < 120 && number < cells && !laid.isEmpty(); step++) {
-            int[] from = laid.get(random.nextInt(4) > 0 ? laid.size() - 1 : random.nextInt(laid.size()));
-            int to = -1;
-            int begin = random.nextInt(4);
-            for (int k = 0; k < 4 && to < 0; k++) {
-                int way = begin + k & 3;
-                int next = guide.next(0, from[0], from[1], way);
-                if (next < 0 || next >= cells || isLaid[next]) {
-                    continue;
-                }
-                to = next;
-                int[] there = {next, (int) guide.asked() & 3, from[2], from[3]};
-                there[2 + way % 2] += way < 2 ? 1 : -1;
-                leastX = Math.min(leastX, there[2]);
-                leastY = Math.min(leastY, there[3]);
-                ways[from[0]] |= 1 << way;
-                isLaid[next] = true;
-                laid.add(there);
-                number++;
-            }
-            if (to < 0) {
-                laid.remove(from);
-            }
-        }
-        return Math.min(7, -leastX) + 8 * Math.min(7, -leastY);
     }
 }

@@ -191,6 +191,12 @@ public final class FiguresTest {
         dueTurned("an L by a quarter", drawn("##", "#.", "#."), false, drawn("###", "..#"));
         dueTurned("an L over", drawn("##", "#.", "#."), true, drawn("##", ".#", ".#"));
         dueTurned("an L put down", drawn("##", "#.", "#.") << 45, true, drawn("##", ".#", ".#"));
+        dueTurned("an L at the board's right end, over", drawn("##", "#.", "#.") << 6, true, drawn("##", ".#", ".#"));
+        dueTurned("an L in the last corner, over", drawn("##", "#.", "#.") << 46, true, drawn("##", ".#", ".#"));
+        dueTurned("an L in the last corner, by a quarter", drawn("##", "#.", "#.") << 46, false, drawn("###", "..#"));
+        dueTurned("an L at the first line's end, by a quarter", drawn("##", "#.", "#.") << 6, false, drawn("###", "..#"));
+        dueTurned("all of three lines, over", 0xFFFFFFL << 40, true, 0xFFFFFFL);
+        dueTurned("all of three lines, by a quarter", 0xFFFFFFL << 40, false, 0x0707070707070707L);
         dueTurned("one square", 1L << 63, true, 1);
         dueTurned("strip that lies", 0xFFL << 56, false, 0x0101010101010101L);
         dueTurned("strip that stands", 0x8080808080808080L, false, 0xFFL);

@@ -18,6 +18,7 @@ public final class GluingTest {
         tries();
         glue();
         glueRefused();
+        shorterBehindLonger();
         meanAngle();
         CHECKS.end();
     }
@@ -249,6 +250,24 @@ public final class GluingTest {
             zip[i] = edges - 1 - i;
         }
         dueGlue(x, "zipped, " + edges, edges / 2 + 1, legal, zip);
+    }
+
+    /** Nothing of a longer rim remains where a shorter one is glued. */
+    private static void shorterBehindLonger() {
+        PaperBodies x = new PaperBodies();
+        zipped(x, 0xFFFFF8L | 1L << 24, 24, 0);
+        x.figure(0, 1);
+        dueGlue(x, "one square behind 24 edges", 3, 1, 3, 2, 1, 0);
+        dueGlue(x, "its other gluing", 3, 1, 1, 0, 3, 2);
+        x.figure(1, 0xFFL);
+        x.gluings(1, 20000);
+        CHECKS.due("gluings of one square", x.gluings(0, 4), 2);
+        dueKept(x, new int[] {1, 0, 3, 2}, new int[] {2, 1, 0, 0});
+        x.figure(1, 0x0103L);
+        CHECKS.due("gluings of a knee", x.gluings(1, 41), 7);
+        x.figure(1, 3);
+        CHECKS.due("gluings of two", x.gluings(1, 13), 5);
+        dueKept(x, new int[] {1, 0, 3, 2, 5, 4}, new int[] {2, 1, 0, 1});
     }
 
     private static void glueRefused() {

@@ -393,6 +393,10 @@ public final class TermsTest {
         x.squares(0);
         CHECKS.due("a cross, down from y = 0", x.asked(),
             1L << 27 | 1L << 28 | 1L << 35 | 1L << 26 | 1L << 19 | 1L << 11);
+        Calls.fill(x, 0, 0, 0, -16, 0, 15, 0);
+        CHECKS.due("bits above 3 are no ways", x.layOutBy(0, 4, 27, 0, 1), 0);
+        Calls.fill(x, 0, -16, -16, -8, -16, -1, -16);
+        CHECKS.due("nor do they spoil any", x.layOutBy(0, 4, 27, 0, 1), 2);
         for (int way = 0; way < 4; way++) {
             int others = 15 & ~(1 << way);
             Calls.fill(x, 0, 0, 0, 8, 0, others, 0);
