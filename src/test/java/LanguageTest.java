@@ -31,6 +31,7 @@ public final class LanguageTest {
     };
     /** Rule 4, and what a record and an enum bring along; none of those that end in Exact. */
     private static final String LIBRARY = "PaperBodies.*|\\[.*\\.clone|java/lang/(Object|Record|Enum)\\..*"
+        + "|java/lang/(runtime/ObjectMethods\\.bootstrap|IncompatibleClassChangeError\\.<init>)"
         + "|java/lang/String\\.(length|charAt|isEmpty|equals|indexOf|substring|toCharArray|<init>)"
         + "|java/lang/StringBuilder\\.(<init>|append|charAt|setCharAt|setLength|deleteCharAt|reverse|length|toString)"
         + "|java/util/(Array)?List\\.(<init>|add|get|set|remove|size|isEmpty|clear|iterator|of)"
