@@ -136,6 +136,7 @@ public final class PaperBodies {
     }
 
     public int turn(int f, boolean over, int to) {
+        // 'in another place': its own is not as told
         if (!isFigure(f) || !isFigure(to) || f == to) {
             return BAD;
         }

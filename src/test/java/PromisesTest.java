@@ -34,6 +34,7 @@ public final class PromisesTest {
         p7ToldByAsked();
         p8PutDown();
         p8AFigure();
+        p8InAnotherPlace();
         p9Alike();
         p10TwiceXYZ();
         p11HowItsFrameIsTurned();
@@ -232,6 +233,17 @@ public final class PromisesTest {
         x.turn(1, true, 0);
         CHECKS.due("where a net was", x.told(0, 0), 1);
         CHECKS.finds(x, "it is no more", x.mark(0, 2), UNLIKE);
+    }
+
+    /** 8: "in another place": its own is not as told, so BAD. The document does not say it outright. */
+    private static void p8InAnotherPlace() {
+        PaperBodies x = withFigure(KNEE << 9);
+        long before = x.digest();
+        CHECKS.due("to its own place, a quarter", x.turn(0, false, 0), BAD);
+        CHECKS.due("to its own place, over", x.turn(0, true, 0), BAD);
+        CHECKS.due("ahead of NOTHING", x.turn(3, true, 3), BAD);
+        CHECKS.due("nothing changes", x.digest(), before);
+        CHECKS.due("to another", x.turn(0, true, 3), 1);
     }
 
     /** 9: "one can be turned, turned over and put down as the other is put down". */
